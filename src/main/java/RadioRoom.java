@@ -218,7 +218,7 @@ public final class RadioRoom {
         return within(place, 0, LAST_PLACE);
     }
 
-    /** The stations and the four settings of the plan. */
+    /** The stations and the four settings of the plan. Where a station's number comes in, hasStation has said yes to it. */
     private static final class Dial {
         private final int[] frequency = new int[MOST_STATIONS];
         private final int[] strengths = new int[MOST_STATIONS];
@@ -628,7 +628,10 @@ public final class RadioRoom {
         }
     }
 
-    /** A set: what its parts were built with, are off by, were turned by, and so are now. */
+    /**
+     * A set: what its parts were built with, are off by, were turned by, and so are now.
+     * Where a part's number comes in, the bench has looked at it.
+     */
     private static final class RadioSet {
         private final int[] built;
         private final int[] offset = new int[PARTS];

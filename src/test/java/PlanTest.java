@@ -172,6 +172,11 @@ public final class PlanTest {
         due("image", x.image(0, 1), 0);
         due("image", x.image(1, 0), 0);
         due("count(1)", x.count(1), 0);
+        x.plan(2, 1);
+        x.station(451, 9);
+        due("oscillator 1 can be had: 450 and 449, plus and less", x.spurs(2), 4);
+        due("and has images", x.image(2, 0), 1);
+        due("the two others can't be had, and no birdies", x.load(450), 200 + 4 * 9);
     }
 
     private static void imageAndWorst() {
@@ -270,6 +275,7 @@ public final class PlanTest {
         due("the last one at 900", x.best(701, 1, 200), 701);
         due("the last one at 901", x.best(702, 1, 200), -1);
         due("far above", x.best(20, 99, 200), -1);
+        due("one alone, by the greatest step", x.best(900, 99, 1), 900);
         x.plan(2, 1);
         x.station(600, 1);
         x.station(1500, 300);
@@ -279,6 +285,7 @@ public final class PlanTest {
         due("all five have it", x.best(448, 1, 5), 448);
         due("453 is the first without", x.best(448, 1, 100), 453);
         due("447 is", x.best(447, 1, 100), 447);
+        due("the second of two", x.best(452, 1, 2), 453);
         due("THE MIDDLE stays", x.plan(0, 450), 450);
     }
 }
