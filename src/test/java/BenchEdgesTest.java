@@ -21,6 +21,7 @@ public final class BenchEdgesTest {
         thirtyTurningsUp();
         thirtyTurningsDown();
         oneTurningEitherWay();
+        upIsTriedFirst();
         asItIsOrMoreIsNotDone();
         heldPartIsNotTurned();
         turnedByTheWholeStepThoughHeld();
@@ -328,6 +329,22 @@ public final class BenchEdgesTest {
         RadioRoom z = offInMiddle(0, 1);
         due("neither", z.round(0), 0);
         due("not turned", z.ofSet(0, 5, 1), 0);
+    }
+
+    /** "up ..; if it did not at all, down likewise": TRIMMER u of 50, 51, 52 makes 136, 148, 146. */
+    private static void upIsTriedFirst() {
+        RadioRoom x = new RadioRoom();
+        x.point(0, 1);
+        x.point(100, 1);
+        int[] errors = {136, 148, 146};
+        for (int n = 0; n < errors.length; n++) {
+            x.part(1, 50 + n);
+            due("set of " + (50 + n), x.errorOf(x.set()), errors[n]);
+        }
+        x.sheet(1, 1);
+        due("once", x.round(1), 1);
+        due("up, though down were less still", x.ofSet(1, 1, 1), 1);
+        due("error", x.errorOf(1), 146);
     }
 
     /** "A turning that leaves ERROR as it is, or makes it more, is not done." */

@@ -266,6 +266,9 @@ public final class FaultsEdgesTest {
         readings(x, 0, 0, 0, 1, 1);
         readings(x, 1, 0, 1, 0, 1);
         due("20 by 0 and 1, both 5: the first", x.left(1), 0);
+        due("a dearer one", x.test(6), 5);
+        readings(x, 5, 0, 0, 1, 1);
+        due("20 by 5, too, but for 6", x.left(1), 0);
         readings(x, 2, 1, 1, 0, 0);
         readings(x, 3, 1, 0, 0, 1);
         due("20 by 2 and 3 for 4: the first of these", x.left(1), 2);

@@ -125,6 +125,11 @@ public final class TrackingEdgesTest {
         due("2178575.3: one less than 1476 times 1476", x.tuned(100, 0), 1475);
         x.part(3, 2289);
         due("1006008.8: less than one below 1003 times 1003", x.tuned(100, 0), 1002);
+        x.gang(41, 659);
+        x.part(3, 3823);
+        due("161604.001: 402 times 402, and hardly more", x.tuned(0, 0), 402);
+        x.part(3, 4259);
+        due("9024.99999: 95 times 95, but for a trifle", x.tuned(100, 0), 94);
     }
 
     /** The least and the greatest coil with the least and the greatest capacity. */
