@@ -316,6 +316,8 @@ public final class TrackingEdgesTest {
         x.point(100, 1);
         due("the last PADDER and the last TRIMMER", x.trimmed(100, 400), 40099);
         due("from 9877 on 475 at place 100", x.trimmed(9699, 9999), 987799);
+        x.gang(999, 999);
+        due("from 9963 on 989, the most there is", x.trimmed(9699, 9999), 996399);
     }
 
     /** With COIL b of 9999 it is too low: the least capacity is best. */
