@@ -535,12 +535,12 @@ public final class RadioRoom {
                 return STATE;
             }
             prepareTrim();
-            long least = Long.MAX_VALUE;
+            long least = 0;
             int bestSoFar = NONE;
             for (int padder = a; padder <= b; padder++) {
                 for (int u = PART_LEAST[TRIMMER_U]; u <= PART_MOST[TRIMMER_U]; u++) {
                     long rank = rankOfTrim(padder, u);
-                    if (rank < least) {
+                    if (bestSoFar == NONE || rank < least) {
                         least = rank;
                         bestSoFar = 100 * padder + u;
                     }
@@ -551,8 +551,8 @@ public final class RadioRoom {
 
         int markOf(int f) {
             int nearest = 0;
-            int least = Integer.MAX_VALUE;
-            for (int place = 0; place <= LAST_PLACE; place++) {
+            int least = Math.abs(signalTuned(0) - f);
+            for (int place = 1; place <= LAST_PLACE; place++) {
                 int away = Math.abs(signalTuned(place) - f);
                 if (away < least) {
                     least = away;
@@ -888,14 +888,14 @@ public final class RadioRoom {
 
         int nextBest() {
             int bestSoFar = NOT;
-            int least = Integer.MAX_VALUE;
-            int leastPrice = Integer.MAX_VALUE;
+            int least = 0;
+            int leastPrice = 0;
             for (int t = 0; t < tests; t++) {
                 if (!partsSet(t, remaining)) {
                     continue;
                 }
                 int sum = greatestLikelihood(t);
-                if (sum < least || sum == least && prices[t] < leastPrice) {
+                if (bestSoFar == NOT || sum < least || sum == least && prices[t] < leastPrice) {
                     bestSoFar = t;
                     least = sum;
                     leastPrice = prices[t];
@@ -952,14 +952,14 @@ public final class RadioRoom {
 
         /** Needs the costs of all smaller subsets. */
         private int costOfParting(int set, boolean byPrice) {
-            int least = Integer.MAX_VALUE;
+            int least = NONE;
             for (int t = 0; t < tests; t++) {
                 if (partsSet(t, set)) {
-                    int own = byPrice ? prices[t] : 1;
-                    least = Math.min(least, own + dearestPart(t, set));
+                    int cost = (byPrice ? prices[t] : 1) + dearestPart(t, set);
+                    least = least == NONE ? cost : Math.min(least, cost);
                 }
             }
-            return least == Integer.MAX_VALUE ? 0 : least;
+            return least == NONE ? 0 : least;
         }
 
         private int dearestPart(int t, int set) {

@@ -24,6 +24,7 @@ public final class TrackingEdgesTest {
         trimmedWithFivePoints();
         trimmedTurnsNothing();
         markAtItsBounds();
+        markOfEachPlace();
         markOfSeveralTheLeast();
         CHECK.end("TrackingEdgesTest");
     }
@@ -394,6 +395,18 @@ public final class TrackingEdgesTest {
         x.gang(400, 40);
         due("1, turned round", x.mark(1), 0);
         due("99999, turned round", x.mark(99999), 100);
+    }
+
+    /** "the place (0 .. 100) where SIGNAL is tuned nearest to it": with the first gang each place has a note of its own. */
+    private static void markOfEachPlace() {
+        RadioRoom x = new RadioRoom();
+        for (int place = 0; place <= 100; place++) {
+            due("what " + place + " is tuned to", x.mark(x.tuned(place, 0)), place);
+        }
+        x.gang(400, 40);
+        for (int place = 0; place <= 100; place++) {
+            due("what " + place + " is tuned to, turned round", x.mark(x.tuned(place, 0)), place);
+        }
     }
 
     /** "where SIGNAL is tuned nearest to it, of several the least": COIL 250 with 30 and 31 is 1837 and 1807. */
